@@ -12,6 +12,7 @@ public final class QuarrelSauce {
     private static final int MISSING = 5;
     private static final int SIZE = 6;
     private static final int FINDINGS = 7;
+    private static final int FINE = -1;
 
     private static final int SAUCE = 0;
     private static final int CREAM = 1;
@@ -317,14 +318,9 @@ public final class QuarrelSauce {
     // ---- told dishes
 
     public int fits(int s, int dish) {
-        if (!isSheet(s)) {
-            return found(BEYOND);
-        }
-        if (sheets[s].isMissing()) {
-            return found(MISSING);
-        }
-        if (!isDish(dish)) {
-            return found(BEYOND);
+        int fault = faultOfTold(s, dish);
+        if (fault != FINE) {
+            return found(fault);
         }
         int fitting = 0;
         for (int grudge = 0; grudge <= MOST; grudge++) {
@@ -338,14 +334,9 @@ public final class QuarrelSauce {
     }
 
     public int kinds(int s, int dish) {
-        if (!isSheet(s)) {
-            return found(BEYOND);
-        }
-        if (sheets[s].isMissing()) {
-            return found(MISSING);
-        }
-        if (!isDish(dish)) {
-            return found(BEYOND);
+        int fault = faultOfTold(s, dish);
+        if (fault != FINE) {
+            return found(fault);
         }
         int set = 0;
         for (int kind = 0; kind < KINDS; kind++) {
@@ -458,11 +449,9 @@ public final class QuarrelSauce {
     }
 
     public int write(int s, int i, int v) {
-        if (!isSheet(s)) {
-            return found(BEYOND);
-        }
-        if (sheets[s].isMissing()) {
-            return found(MISSING);
+        int fault = faultOfSheet(s);
+        if (fault != FINE) {
+            return found(fault);
         }
         if (!within(i, 0, sheets[s].length - 1)) {
             return found(BEYOND);
@@ -489,11 +478,9 @@ public final class QuarrelSauce {
     }
 
     public int load(int s) {
-        if (!isSheet(s)) {
-            return found(BEYOND);
-        }
-        if (sheets[s].isMissing()) {
-            return found(MISSING);
+        int fault = faultOfSheet(s);
+        if (fault != FINE) {
+            return found(fault);
         }
         Sheet told = sheets[s];
         int came = 0;
@@ -505,11 +492,9 @@ public final class QuarrelSauce {
     }
 
     public int judge(int s) {
-        if (!isSheet(s)) {
-            return found(BEYOND);
-        }
-        if (sheets[s].isMissing()) {
-            return found(MISSING);
+        int fault = faultOfSheet(s);
+        if (fault != FINE) {
+            return found(fault);
         }
         Sheet told = sheets[s];
         for (int i = 0; i < told.length; i++) {
@@ -579,6 +564,23 @@ public final class QuarrelSauce {
 
     private boolean isDish(int dish) {
         return within(dish, 0, kitchen.dishCount - 1);
+    }
+
+    /** The finding for a sheet that must be there, or FINE. */
+    private int faultOfSheet(int s) {
+        if (!isSheet(s)) {
+            return BEYOND;
+        }
+        return sheets[s].isMissing() ? MISSING : FINE;
+    }
+
+    /** The finding for a sheet that tells of a dish, or FINE. */
+    private int faultOfTold(int s, int dish) {
+        int fault = faultOfSheet(s);
+        if (fault == FINE && !isDish(dish)) {
+            return BEYOND;
+        }
+        return fault;
     }
 
     /** Whether the one dish of the draft is as thick, from now on, as a sheet tells. */
