@@ -1042,7 +1042,6 @@ public final class QuarrelSauce {
         private int token = END;
         private int start = 0;
         private int end = 0;
-        private int value = 0;
 
         private void append(int number, int n) {
             for (int k = n - 1; k >= 0; k--) {
@@ -1127,10 +1126,13 @@ public final class QuarrelSauce {
 
         /** The number that stands here, and on to the next token; -1: none up to most does. */
         private int readNumber(int most) {
-            if (token != NUMBER || value > most) {
+            if (token != NUMBER) {
                 return -1;
             }
-            int number = value;
+            int number = valueOfToken();
+            if (number > most) {
+                return -1;
+            }
             nextToken();
             return number;
         }
@@ -1182,41 +1184,36 @@ public final class QuarrelSauce {
             while (start < length && bytes[start] == ' ') {
                 start++;
             }
-            end = start;
             if (start >= length) {
                 token = END;
-            } else if (isLetter(bytes[start])) {
-                takeWord();
-            } else if (isDigit(bytes[start])) {
-                takeNumber();
-            } else {
-                token = bytes[start] == ';' ? SIGN : WRONG;
-                end = start + 1;
+                end = start;
+                return;
             }
-        }
-
-        private void takeWord() {
-            token = WORD;
-            while (end < length && isLetter(bytes[end])) {
+            token = sortOf(bytes[start]);
+            end = start + 1;
+            boolean mayGoOn = token == WORD || token == NUMBER;
+            while (mayGoOn && end < length && sortOf(bytes[end]) == token) {
                 end++;
             }
         }
 
-        private void takeNumber() {
-            token = NUMBER;
-            value = 0;
-            while (end < length && isDigit(bytes[end])) {
-                value = Math.min(TOO_GREAT, value * 10 + bytes[end] - '0');
-                end++;
+        private static int sortOf(byte b) {
+            if (b >= 'a' && b <= 'z') {
+                return WORD;
             }
+            if (b >= '0' && b <= '9') {
+                return NUMBER;
+            }
+            return b == ';' ? SIGN : WRONG;
         }
 
-        private static boolean isLetter(byte b) {
-            return b >= 'a' && b <= 'z';
-        }
-
-        private static boolean isDigit(byte b) {
-            return b >= '0' && b <= '9';
+        /** What the digits of the token tell, held below what would wrap around. */
+        private int valueOfToken() {
+            int value = 0;
+            for (int k = start; k < end; k++) {
+                value = Math.min(TOO_GREAT, value * 10 + bytes[k] - '0');
+            }
+            return value;
         }
     }
 }

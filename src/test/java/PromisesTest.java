@@ -307,6 +307,23 @@ public final class PromisesTest {
         due("count(0)", x.count(0), 3);
         due("go(60)", x.go(60), x.count(2));
         due("count(0)", x.count(0), 63);
+        // Only a far longer life than is promised comes there.
+        x = new QuarrelSauce();
+        for (int k = 0; k < 1666; k++) {
+            x.go(60);
+        }
+        due("go(40) at 99960", x.go(40), STATE);
+        due("service(20) at 99960", x.service(20), 0);
+        due("service(20) at 99980", x.service(20), STATE);
+        due("service(19) at 99980", x.service(19), 0);
+        due("count(0)", x.count(0), 99999);
+        due("go(1) at 99999", x.go(1), STATE);
+        x = new QuarrelSauce();
+        for (int k = 0; k < 1666; k++) {
+            x.go(60);
+        }
+        due("go(39) at 99960", x.go(39), 50);
+        due("go(0) at 99999", x.go(0), BEYOND);
 
         x = kitchen("sauce thick 80;sauce thick 76;cream thick 64;dark thick 86;stock thick 97;sauce thick 75");
         x.go(1);
@@ -348,6 +365,10 @@ public final class PromisesTest {
         due("now(-1)", x.now(-1), BEYOND);
         x = kitchen("sauce split;sauce split");
         due("now(7), all give 0", x.now(7), 0);
+        x = kitchen("sauce off;sauce;grudge 9");
+        due("now(4) of the first", x.now(4), 1);
+        x.change(0, 4, 0);
+        due("now(5) of all", x.now(5), 3);
     }
 
     private static void whatWillBe() {
@@ -408,6 +429,12 @@ public final class PromisesTest {
         x = kitchen("sauce thick 0;deed 5 7;grudge 13");
         due("splits at the joke", x.splits(0), 6);
 
+        // A glaze so thick needs 24, and there is 1 less a round, least at its joke.
+        x = kitchen("glaze thick 99;grudge 60;deed 1 7;deed 3 8;deed 4 11");
+        due("splits just in time", x.splits(0), 6 * 33 + 2);
+        x.set(0, 61);
+        due("splits too late", x.splits(0), NONE);
+
         promise = 15;
         x = kitchen("sauce thick 20 salt 30;cream thick 0 split;cream off;salad;sauce thick 99 off");
         due("ready(0, 20)", x.ready(0, 20), 0);
@@ -431,6 +458,11 @@ public final class PromisesTest {
         x = kitchen("cream thick 0 salt 30;deed 0 11;grudge 0;cream thick 0 salt 30 off");
         due("ready of one off by a slow grudge", x.ready(1, 6), 6 * 29 + 1);
         due("ready at 200, grudge 34", x.ready(1, 7), NONE);
+        x = kitchen("cream thick 0 salt 30 off;deed 1 11;grudge 1");
+        due("ready just in time", x.ready(0, 7), 6 * 33 + 2);
+        x.deed(1, 0);
+        x.deed(2, 11);
+        due("ready too late", x.ready(0, 7), NONE);
 
         promise = 16;
         x = kitchen("deed 0 11;deed 1 7;deed 3 11");
@@ -484,6 +516,8 @@ public final class PromisesTest {
         due("grudgeFor(5, 2)", x.grudgeFor(5, 2), NONE);
         x.deed(0, 4);
         due("grudgeFor(0, 1) with a kindness", x.grudgeFor(0, 1), 30);
+        list(x, 4, 4, 4, 9);
+        due("grudgeFor(1, 4), all of it", x.grudgeFor(1, 4), 99);
         due("grudgeFor(6, 0)", x.grudgeFor(6, 0), BEYOND);
         due("grudgeFor(-1, 0)", x.grudgeFor(-1, 0), BEYOND);
         due("grudgeFor(0, 61)", x.grudgeFor(0, 61), BEYOND);
@@ -519,6 +553,8 @@ public final class PromisesTest {
         x.change(4, 1, 10);
         due("best(4), at the end", x.best(4), 60);
         due("best(5)", x.best(5), BEYOND);
+        QuarrelSauce y = kitchen("cream off;deed 0 1;deed 1 9");
+        due("best of ups and downs", y.best(0), 1);
         due("best(-1)", x.best(-1), BEYOND);
 
         promise = 21;
@@ -640,8 +676,11 @@ public final class PromisesTest {
         // 49 is needed, the deeds of 2 and more are enough: 7 of 12.
         due("odds(3, 2, 0)", x.odds(3, 2, 0), 49);
         due("odds(3, 2, 1)", x.odds(3, 2, 1), 144);
+        x.set(0, 18);
+        due("odds(0, 2, 0), 10 of 12", x.odds(0, 2, 0), 25);
+        due("odds(0, 2, 1), 10 of 12", x.odds(0, 2, 1), 36);
         x.set(0, 43);
-        due("odds(3, 3, 0), a half", x.odds(3, 3, 0), 1);
+        due("odds(3, 3, 0), 4 of 12", x.odds(3, 3, 0), 1);
         due("odds(3, 3, 1), 4 of 12", x.odds(3, 3, 1), 27);
         x.set(0, 20);
         due("odds(3, 3, 0), never", x.odds(3, 3, 0), 0);
@@ -726,7 +765,8 @@ public final class PromisesTest {
             "sauce off off", "sauce split split", "sauce 5", "deed", "deed 6 0", "deed 0", "deed 0 12", "deed 0;1",
             "deed x", "deed 0 1 2", "grudge", "grudge 100", "grudge x", "grudge 5 5", "heat 10", "heat", "heat 5;heat",
             "heat 5;7", "7", "thick 5", "off", "sauce\t", "sauce\nthick 5", "sauce thick -1", "sauce.", "sauce \u00e9",
-            "\u00e9", "sauce thick 5x", "heat 5,", "grudge 5 ; x", "sauce \u0000", "deed 1 2;deed 3 99;x"};
+            "\u00e9", "sauce thick 5x", "heat 5,", "grudge 5 ; x", "sauce \u0000", "deed 1 2;deed 3 99;x",
+            "sauce salt", "sauce salt 100", "sauce salt x", "sauce thick 5 salt off", "tauce", "xark", "saucy"};
         int[] faults = {
             0, 3, 0, 6, 7, 6, 1, 6, 0, 0, 0,
             11, 11, 12, 12, 12,
@@ -734,7 +774,8 @@ public final class PromisesTest {
             10, 12, 6, 4, 5, 6, 7, 6,
             5, 9, 6, 7, 7, 9, 5, 4, 11,
             7, 0, 0, 0, 5, 5, 12, 5, 6,
-            0, 13, 6, 11, 6, 16};
+            0, 13, 6, 11, 6, 16,
+            10, 11, 11, 19, 0, 0, 0};
         QuarrelSauce x = kitchen("sauce thick 33;deed 1 7;grudge 44;heat 4");
         int findings = x.status(-1);
         for (int k = 0; k < texts.length; k++) {
@@ -757,8 +798,18 @@ public final class PromisesTest {
         due("noughts ahead", told(x, " grudge 00012 ;heat 0000000009 ; deed 005 0011  "), 3);
         due("grudge", x.count(2), 12);
         due("listed(5)", x.listed(5), 11);
+        due("noughts", told(x, "cream thick 0 salt 0;grudge 0;heat 0;deed 0 0"), 4);
+        due("salt 0", x.of(2, 2), 0);
+        due("grudge 0", x.set(0, 3), 0);
+        due("heat 0", x.set(1, 3), 0);
         due("item by item", told(x, "grudge 1;grudge 2;grudge 3"), 3);
         due("grudge", x.count(2), 3);
+        told(x, "grudge 123456789");
+        due("nothing is read behind the end", told(x, "grudge 1"), 1);
+        due("grudge", x.count(2), 1);
+        due("a number at the very end", told(x, " ".repeat(112) + "grudge 9"), 1);
+        due("a word at the very end", told(x, " ".repeat(115) + "sauce"), 1);
+        due("a sign at the very end", told(x, " ".repeat(114) + "sauce;"), -121);
         StringBuilder most = new StringBuilder("heat 5");
         while (most.length() < 120) {
             most.append(most.length() + 7 <= 120 ? ";heat 3" : " ");
@@ -971,6 +1022,25 @@ public final class PromisesTest {
         x.image();
         x.go(1);
         due("undo(), the latest", x.undo(), 3);
+        x.dish(DARK, 90);
+        for (int what = 2; what <= 5; what++) {
+            x.change(2, what, 1);
+        }
+        x.undo();
+        due("now(5), none that is gone", x.now(5) >> 2, 0);
+        due("dish(5, 4), anew", x.dish(SALAD, 4), 2);
+        int[] anew = {SALAD, 4, 10, 0, 0, 0};
+        for (int what = 0; what < 6; what++) {
+            due("anew of(2, " + what + ")", x.of(2, what), anew[what]);
+        }
+        QuarrelSauce y = new QuarrelSauce();
+        y.image();
+        for (int d = 0; d < 8; d++) {
+            y.dish(DARK, 60);
+        }
+        y.undo();
+        due("service without those that are gone", y.service(20), 0);
+        due("now(6), none that is gone", y.now(6), 0);
 
         promise = 39;
         due("tear()", x.tear(), 1);
