@@ -202,6 +202,18 @@ final class ForesightBoundaries extends Asking {
         unchanged("peace(62)", x -> told(x, "deed 1 7;deed 2 11;deed 3 8;grudge 99"), x -> x.peace(62), 200);
     }
 
+    @Says("Behind how many STEPS (0 to 200, the fewest) GRUDGE is v (0 to 99) or less.")
+    static void promise16_fromTheGrudgeAndTheStepAsTheyAreNow() {
+        QuarrelSauce x = kitchen("grudge 60;deed 0 6;deed 5 4");
+        // 5 less in each round: 40 behind four.
+        due("peace(40)", x.peace(40), 24);
+        x.go(3);
+        x.set(0, 60);
+        due("peace(40), later", x.peace(40), 3);
+        x.act(4);
+        due("peace(55), a kindness later", x.peace(55), 0);
+    }
+
     @Says("GRUDGE is v (0 to 99) or less. BEYOND. NONE.")
     static void promise16_behind200StepsThereIsNone() {
         refused("peace(61)", x -> told(x, "deed 1 7;deed 2 11;deed 3 8;grudge 99"), x -> x.peace(61), NONE);

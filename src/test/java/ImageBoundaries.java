@@ -202,6 +202,30 @@ final class ImageBoundaries extends Asking {
         refused("SIZE", Asking::rich, x -> x.sheet(0, 0, -1), -1000007);
     }
 
+    @Says("one that answers a finding changes nothing but status().")
+    static void promise41_manyFindingsChangeNothingElse() {
+        QuarrelSauce x = begun(Asking::rich);
+        QuarrelSauce y = begun(Asking::rich);
+        int before = x.status(-1);
+        x.set(0, 100);
+        x.dish(7, 0);
+        x.change(0, 1, 100);
+        x.serve(2);
+        x.go(61);
+        x.splits(2);
+        x.ready(0, 999);
+        x.service(21);
+        x.feed(0, 5);
+        x.hold(9, 8);
+        x.as(0, 4);
+        x.sheet(0, 0, -1);
+        x.write(0, 3, 1);
+        x.copy(0, 0, 2, 0, 1);
+        x.load(3);
+        due("status(-1)", x.status(-1), before + 15);
+        same("fifteen refused calls", x, y);
+    }
+
     @Says("which -1: all, 0 to 6: BEYOND to SIZE.")
     static void promise41_minus1TellsAllTogether() {
         QuarrelSauce x = begun(Asking::full);

@@ -371,6 +371,42 @@ final class KitchenBoundaries extends Asking {
         }
     }
 
+    @Says("DARK: as a GLAZE, and 10, if the DEED of this STEP is 1.")
+    static void promise06_noDeedButTheDrawerThickensMore() {
+        for (int deed = 0; deed < 12; deed++) {
+            QuarrelSauce x = kitchen("sauce;cream;stock;glaze;dark;salad;custard;deed 0 " + deed);
+            int[] thickens = {5, 6, 2, 5, deed == 1 ? 15 : 5, 0, 12};
+            for (int kind = 0; kind < 7; kind++) {
+                due("kind " + kind + " by deed " + deed, x.of(kind, 7), thickens[kind]);
+            }
+        }
+    }
+
+    @Says("SAUCE: 5, if the DEED of this STEP is 2, else 0. CREAM: as a SAUCE. CUSTARD: 0. STOCK: as a SAUCE, and 1. "
+        + "GLAZE: twice a STOCK. DARK: as a GLAZE. SALAD: as a SAUCE, and 3, if the DEED of this STEP is 8.")
+    static void promise06_noDeedButTwoSaltsMore() {
+        int[] by2 = {5, 5, 6, 12, 12, 5, 0};
+        int[] by8 = {0, 0, 1, 2, 2, 3, 0};
+        int[] byOthers = {0, 0, 1, 2, 2, 0, 0};
+        for (int deed = 0; deed < 12; deed++) {
+            QuarrelSauce x = kitchen("sauce;cream;stock;glaze;dark;salad;custard;deed 0 " + deed);
+            int[] salts = deed == 2 ? by2 : deed == 8 ? by8 : byOthers;
+            for (int kind = 0; kind < 7; kind++) {
+                due("kind " + kind + " by deed " + deed, x.of(kind, 8), salts[kind]);
+            }
+        }
+    }
+
+    @Says("SAUCE: 80. CREAM: as a SAUCE, less 10. CUSTARD: as a CREAM. STOCK, GLAZE: as a SAUCE, and 19. "
+        + "DARK: as a GLAZE, less 9. SALAD: 99.")
+    static void promise06_whatEachKindBurnsAt() {
+        QuarrelSauce x = kitchen("sauce;cream;stock;glaze;dark;salad;custard");
+        int[] burns = {80, 70, 99, 99, 90, 99, 70};
+        for (int kind = 0; kind < 7; kind++) {
+            due("of(" + kind + ", 9)", x.of(kind, 9), burns[kind]);
+        }
+    }
+
     @Says("7 THICKENS (by GRUDGE as it is now)")
     static void promise06_thickensIsNotByTheGrudgeBehindTheDeed() {
         due("of(0, 7) ahead of a kindness", kitchen("sauce;deed 0 4;grudge 50").of(0, 7), 5);

@@ -268,6 +268,19 @@ final class PlanBoundaries extends Asking {
         unchanged("takeOff(1), none else", x -> told(x, "sauce off;sauce split;grudge 0"), x -> x.takeOff(1), 0);
     }
 
+    @Says("no more are SPLIT behind n (0 to 20) STEPS than are now")
+    static void promise21_fromAllAsItIsNow() {
+        QuarrelSauce x = kitchen("sauce;cream;grudge 50");
+        due("takeOff(1)", x.takeOff(1), 0);
+        x.set(0, 29);
+        due("takeOff(1), less grudge", x.takeOff(1), 2);
+        x.change(1, 4, 1);
+        x.act(4);
+        due("takeOff(1), the cream is off", x.takeOff(1), 1);
+        x.go(1);
+        due("takeOff(1), the sauce is split", x.takeOff(1), 0);
+    }
+
     @Says("behind n (0 to 20) STEPS than are now; of several the least. BEYOND.")
     static void promise21_tooFewOrTooManyStepsAreRefused() {
         for (int n : new int[] {-1, 21, LEAST, MOST}) {

@@ -113,6 +113,13 @@ final class ServiceBoundaries extends Asking {
         due("service(20) without dishes", x.service(20), 0);
         due("no finding", x.status(-1), 0);
         due("step", x.count(0), 20);
+        QuarrelSauce y = new QuarrelSauce();
+        y.image();
+        for (int d = 0; d < 8; d++) {
+            y.dish(DARK, 60);
+        }
+        y.undo();
+        due("service(20), the dishes are gone", y.service(20), 0);
     }
 
     @Says("then the DISH of the second one's rest by 8, if there is one and it isn't OFF, is SERVED (as by serve())")

@@ -11,7 +11,8 @@ final class StepBoundaries extends Asking {
         due("go(1)", x.go(1), 21);
         due("step", x.count(0), 1);
         due("go(60)", x.go(60), 31);
-        due("step", x.count(0), 61);
+        due("count(0)", x.count(0), 61);
+        due("now(0)", x.now(0), 61);
     }
 
     @Says("n STEPS (1 to 60): GRUDGE then. BEYOND.")

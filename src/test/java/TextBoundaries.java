@@ -323,6 +323,8 @@ final class TextBoundaries extends Asking {
     @Says("another WORD")
     static void promise29_anotherWord() {
         fault("soup", 0);
+        fault("xauce", 0);
+        fault("saucx", 0);
         fault("thick 5", 0);
         fault("off", 0);
         fault("split", 0);
@@ -411,6 +413,17 @@ final class TextBoundaries extends Asking {
         due("grudge", x.count(2), 50);
         due("listed(0)", x.listed(0), 0);
         due("heat", x.set(1, 0), 3);
+    }
+
+    @Says("all that it tells is so, item by item: how many ITEMS.")
+    static void promise29_whatATextDoesNotTellStays() {
+        QuarrelSauce x = begun(Asking::rich);
+        QuarrelSauce y = begun(Asking::rich);
+        x.wipe();
+        y.wipe();
+        due("text()", told(x, "heat 1"), 1);
+        y.set(1, 1);
+        same("a text of one item", x, y);
     }
 
     @Says("all that it tells is so, item by item: how many ITEMS.")
